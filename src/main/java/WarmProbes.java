@@ -321,12 +321,9 @@ public final class WarmProbes {
 
     private int carriedOut() {
         int done = 0;
-        int end = 0;
-        for (int start = 0; start < pad.length; start = end + 1) {
-            end = pad.endOfOrder(start);
-            if (end <= start) {
-                return done;
-            }
+        int start = 0;
+        for (int order = 0; order < MOST_CHARACTERS && start < pad.length; order++) {
+            int end = pad.endOfOrder(start);
             int wanted = pad.ordersIn(start, end);
             for (int i = 0; i < wanted; i++) {
                 if (answerOf(start, end, i) < 0) {
@@ -334,6 +331,7 @@ public final class WarmProbes {
                 }
                 done++;
             }
+            start = end + 1;
         }
         return done;
     }
@@ -430,15 +428,12 @@ public final class WarmProbes {
     }
 
     /**
-     * The library that the program keeps to has no Float.floatToIntBits. Warmth is finite and never below 0, and
-     * doubling or halving it up to the 24 bits of a float's number loses nothing.
+     * The library that the program keeps to has no Float.floatToIntBits. Warmth is never below 0 and far below 2^24, so
+     * that it only has to be doubled until its digits are a whole number, which loses nothing.
      */
-    private static int bitsOfFloat(float value) {
-        float number = value;
+    private static int bitsOfFloat(float warmth) {
+        float number = warmth;
         int exponent = 150;
-        for (; exponent < 254 && number >= 16777216.0f; exponent++) {
-            number = number / 2.0f;
-        }
         for (; exponent > 1 && number < 8388608.0f; exponent--) {
             number = number * 2.0f;
         }
@@ -446,13 +441,10 @@ public final class WarmProbes {
         return digits < 8388608 ? digits : (exponent << 23) + (digits - 8388608);
     }
 
-    /** As bitsOfFloat, with the 53 bits of a double's number. */
-    private static long bitsOfDouble(double value) {
-        double number = value;
+    /** As bitsOfFloat, with the 53 binary digits of a double. */
+    private static long bitsOfDouble(double warmth) {
+        double number = warmth;
         long exponent = 1075L;
-        for (; exponent < 2046L && number >= 9007199254740992.0; exponent++) {
-            number = number / 2.0;
-        }
         for (; exponent > 1L && number < 4503599627370496.0; exponent--) {
             number = number * 2.0;
         }
@@ -949,9 +941,9 @@ public final class WarmProbes {
         }
 
         private int firstFault() {
-            int end = 0;
-            for (int start = 0; start <= length; start = end + 1) {
-                end = endOfOrder(start);
+            int start = 0;
+            for (int order = 0; order < MOST_CHARACTERS; order++) {
+                int end = endOfOrder(start);
                 if (end < 0) {
                     return ~end;
                 }
@@ -961,6 +953,7 @@ public final class WarmProbes {
                 if (codeAt(end) != ';') {
                     return end;
                 }
+                start = end + 1;
             }
             return length;
         }

@@ -17,6 +17,7 @@ public final class ViewsTest {
         ofNet();
         count();
         mean();
+        faintAndHot();
         viewsChangeNothing();
         DUE.end();
     }
@@ -305,6 +306,41 @@ public final class ViewsTest {
         DUE.is("warm", x.mean(), Double.doubleToLongBits(sum / 64.0));
         Due.carryOut(x, "m0;w1", 2);
         DUE.is("cold again", x.mean(), 0);
+    }
+
+    /** The least warmth that there can be, and the most, against the bits that the Java library tells. */
+    private static void faintAndHot() {
+        int[][] settings = {{1, 50, 1}, {24, 0, 99}, {0, 0, 99}, {24, 50, 1}, {1, 0, 1}};
+        for (int[] values : settings) {
+            WarmProbes x = new WarmProbes();
+            PlainModel model = new PlainModel();
+            for (int i = 0; i < 3; i++) {
+                x.set(i, values[i]);
+                model.set(i, values[i]);
+                x.track(0, i, 1);
+                model.track(0, i, 1);
+                x.track(1, i, 2);
+                model.track(1, i, 2);
+            }
+            x.feed(1, 2);
+            model.feed(1, 2);
+            for (int i = 0; i < (values[2] == 1 ? 1 : 3); i++) {
+                x.touch(0, i, 2);
+                model.touch(0, i, 2);
+            }
+            for (int steps : new int[] {1, 14, 35, 50}) {
+                x.warm(steps);
+                model.warm(steps);
+                for (int place = 0; place < 64; place += steps == 50 ? 1 : 7) {
+                    int row = place / 8;
+                    int column = place % 8;
+                    DUE.is("warmth of " + place, x.at(row, column, 1), model.at(row, column, 1));
+                    DUE.is("read of " + place, x.at(row, column, 2), model.at(row, column, 2));
+                }
+                DUE.is("warmth of a net", x.ofNet(1, 2), model.ofNet(1, 2));
+                DUE.is("mean", x.mean(), model.mean());
+            }
+        }
     }
 
     private static void viewsChangeNothing() {
