@@ -11,7 +11,10 @@ import java.util.TreeSet;
 import java.util.regex.Matcher;
 import java.util.regex.Pattern;
 
-/** The rules of LANGUAGE.md that can be seen from outside, or from the words of the program; its path is the argument. */
+/**
+ * The rules of LANGUAGE.md that can be seen from outside, or from the words of the program, whose path can be given as
+ * an argument.
+ */
 public final class RulesTest {
     private static final Due DUE = new Due();
     private static final String[] FACE = {

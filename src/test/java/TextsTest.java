@@ -138,8 +138,8 @@ public final class TextsTest {
     }
 
     private static void carryOutUpToAnError() {
-        String[] texts = {"t8a0", "t1a8", "t1a0a9;w1", "f11", "f01", "f18", "sa0=1", "sa8=1", "sa0=8", "m0", "w0", "w51",
-            "pa8", "w50;w50;w1", "w1;w0;w1", "t1a0b0a9c0"};
+        String[] texts = {"t8a0", "t1a8", "t1a0a9;w1", "f11", "f01", "f18", "sa0=1", "sa8=1", "sa0=8", "m0", "w0",
+            "w51", "pa8", "w50;w50;w1", "w1;w0;w1", "t1a0b0a9c0"};
         int[] done = {0, 0, 1, 0, 0, 0, 0, 0, 0, 0, 0, 0, 0, 2, 1, 2};
         for (int i = 0; i < texts.length; i++) {
             WarmProbes x = new WarmProbes();
