@@ -28,7 +28,7 @@ public final class RulesTest {
     private static final String[] NOT_WANTED = {
         "->", "::", "\\bimport\\b", "\\bpackage\\b", "\\btry\\b", "\\bcatch\\b", "\\bfinally\\b", "\\bthrows?\\b",
         "\\bassert\\b", "\\bsynchronized\\b", "\\bFloat\\b", "\\bDouble\\b", "\\bjava\\b", "Exact\\b",
-        "\\bSystem\\.(?!arraycopy\\b)", "\\bwhile\\b", "\\bprotected\\b", "\\bStringBuilder\\b", "\\bvar\\b"};
+        "\\bSystem\\.(?!arraycopy\\b)", "\\bprotected\\b", "\\bvar\\b"};
 
     public static void main(String[] args) throws IOException {
         face();
