@@ -23,14 +23,14 @@ public final class ChangesTest {
     }
 
     /** Nets 1 and 2, a fed pair, in columns a and b of two rows: every place is suspect. */
-    private static WarmProbes small() {
-        WarmProbes x = new WarmProbes();
+    private static Counted small() {
+        Counted x = new Counted();
         Due.carryOut(x, "t1a0a1;t2b0b1;f12", 5);
         return x;
     }
 
     private static void newObject() {
-        WarmProbes x = new WarmProbes();
+        Counted x = new Counted();
         for (int place = 0; place < 64; place++) {
             DUE.is("new net " + place, x.at(place / 8, place % 8, 0), 0);
             DUE.is("new warmth " + place, x.at(place / 8, place % 8, 1), 0);
@@ -55,7 +55,7 @@ public final class ChangesTest {
     private static void set() {
         int[][] ranges = {{0, 24, 15}, {0, 50, 5}, {1, 99, 20}, {0, 99, 3}};
         for (int setting = 0; setting < 4; setting++) {
-            WarmProbes x = new WarmProbes();
+            Counted x = new Counted();
             int least = ranges[setting][0];
             int most = ranges[setting][1];
             DUE.is("set too low " + setting, x.set(setting, least - 1), WarmProbes.BAD_VALUE);
@@ -69,7 +69,7 @@ public final class ChangesTest {
             DUE.is("setting " + setting, x.count(9 + setting), most);
             DUE.is("set is a change " + setting, x.count(14), 3);
         }
-        WarmProbes x = new WarmProbes();
+        Counted x = new Counted();
         for (int setting : new int[] {-1, 4, LOW, HIGH}) {
             DUE.is("set no setting " + setting, x.set(setting, 5), WarmProbes.BAD_VALUE);
         }
@@ -77,7 +77,7 @@ public final class ChangesTest {
 
     private static void setBeginsRun() {
         for (int setting = 0; setting < 4; setting++) {
-            WarmProbes x = small();
+            Counted x = small();
             x.touch(0, 0, 2);
             x.warm(3);
             x.probe(0, 0);
@@ -91,7 +91,7 @@ public final class ChangesTest {
     }
 
     private static void track() {
-        WarmProbes x = new WarmProbes();
+        Counted x = new Counted();
         for (int off : new int[] {-1, 8, LOW, HIGH}) {
             DUE.is("track off row", x.track(off, 0, 1), WarmProbes.NO_SUCH);
             DUE.is("track off column", x.track(0, off, 1), WarmProbes.NO_SUCH);
@@ -114,7 +114,7 @@ public final class ChangesTest {
     }
 
     private static void trackByTouches() {
-        WarmProbes x = new WarmProbes();
+        Counted x = new Counted();
         Due.carryOut(x, "t1c2b3;t2b2d2;t3c1;sc2=2", 6);
         int changes = x.count(14);
         for (int net = 0; net <= 7; net++) {
@@ -135,7 +135,7 @@ public final class ChangesTest {
     }
 
     private static void touch() {
-        WarmProbes x = new WarmProbes();
+        Counted x = new Counted();
         Due.carryOut(x, "t1a0b1;t2b0;t3h7;t4g7;t5c1", 6);
         x.warm(2);
         x.probe(0, 0);
@@ -159,7 +159,7 @@ public final class ChangesTest {
     }
 
     private static void touchOrderOfErrors() {
-        WarmProbes x = new WarmProbes();
+        Counted x = new Counted();
         Due.carryOut(x, "t1a0a1a2;t2b0b1b2;sa0=2;sa1=2;sa2=2", 9);
         for (int off : new int[] {-1, 8, LOW, HIGH}) {
             DUE.is("touch off row", x.touch(off, 0, 0), WarmProbes.NO_SUCH);
@@ -172,7 +172,7 @@ public final class ChangesTest {
     }
 
     private static void mend() {
-        WarmProbes x = new WarmProbes();
+        Counted x = new Counted();
         DUE.is("mend none", x.mend(0), WarmProbes.NO_SUCH);
         Due.carryOut(x, "t1a0a1a2;t2b0b1b2;sa0=2;sa1=2;sb2=1;w3;pa0", 11);
         for (int off : new int[] {-1, 3, LOW, HIGH}) {
@@ -197,7 +197,7 @@ public final class ChangesTest {
     }
 
     private static void feed() {
-        WarmProbes x = new WarmProbes();
+        Counted x = new Counted();
         for (int off : new int[] {-1, 0, 8, LOW, HIGH}) {
             DUE.is("feed no net", x.feed(off, 1), WarmProbes.NO_SUCH);
             DUE.is("feed no other", x.feed(1, off), WarmProbes.NO_SUCH);
@@ -221,7 +221,7 @@ public final class ChangesTest {
     }
 
     private static void cool() {
-        WarmProbes x = small();
+        Counted x = small();
         x.touch(0, 0, 2);
         x.warm(7);
         x.warm(3);
@@ -239,7 +239,7 @@ public final class ChangesTest {
     }
 
     private static void warm() {
-        WarmProbes x = new WarmProbes();
+        Counted x = new Counted();
         for (int off : new int[] {0, -1, 51, LOW, HIGH}) {
             DUE.is("warm out of range", x.warm(off), WarmProbes.BAD_VALUE);
         }
@@ -256,7 +256,7 @@ public final class ChangesTest {
     }
 
     private static void warmByHand() {
-        WarmProbes x = small();
+        Counted x = small();
         x.touch(0, 0, 2);
         x.warm(1);
         DUE.isWarmth("a live touch", x.at(0, 0, 1), 20.0f);
@@ -283,7 +283,7 @@ public final class ChangesTest {
     }
 
     private static void warmOfTwoTouches() {
-        WarmProbes x = small();
+        Counted x = small();
         Due.carryOut(x, "t3c1;sa0=2;sb1=1;sc1=2", 4);
         x.warm(1);
         DUE.isWarmth("first", x.at(0, 0, 1), 20.0f);
@@ -297,7 +297,7 @@ public final class ChangesTest {
     }
 
     private static void probe() {
-        WarmProbes x = small();
+        Counted x = small();
         x.touch(0, 0, 2);
         for (int off : new int[] {-1, 8, LOW, HIGH}) {
             DUE.is("probe off row", x.probe(off, 0), WarmProbes.NO_SUCH);

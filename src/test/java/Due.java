@@ -25,7 +25,7 @@ final class Due {
     }
 
     /** Appends a text of any length to the pad, and answers the last answer of put. */
-    static int put(WarmProbes x, String text) {
+    static int put(Counted x, String text) {
         int answer = x.wipe();
         for (int i = 0; i < text.length(); i += 8) {
             answer = x.put(characters(text.substring(i, Math.min(i + 8, text.length()))));
@@ -42,7 +42,7 @@ final class Due {
     }
 
     /** Carries a text out that has to be without a fault and an error. */
-    static void carryOut(WarmProbes x, String text, int orders) {
+    static void carryOut(Counted x, String text, int orders) {
         put(x, text);
         int done = x.carryOut();
         if (done != orders) {

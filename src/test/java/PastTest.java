@@ -30,37 +30,17 @@ public final class PastTest {
         DUE.is("DOUBT", WarmProbes.DOUBT, 3);
     }
 
-    private static WarmProbes warmBoard() {
-        WarmProbes x = new WarmProbes();
+    private static Counted warmBoard() {
+        Counted x = new Counted();
         Due.carryOut(x, "t1a0a1;t2b0b1;f12;sa0=2;sb1=1;w4;pa0;pb0", 10);
         return x;
-    }
-
-    /** All that undo and the slots bring back, as a text. */
-    private static String stateOf(WarmProbes x) {
-        StringBuilder state = new StringBuilder();
-        for (int place = 0; place < 64; place++) {
-            for (int what = 0; what <= 6; what++) {
-                state.append(x.at(place / 8, place % 8, what)).append(' ');
-            }
-        }
-        for (int what = 0; what <= 12; what++) {
-            state.append(x.count(what)).append(' ');
-        }
-        for (int i = 0; i < 8; i++) {
-            for (int what = 0; what <= 3; what++) {
-                state.append(x.ofTouch(i, what)).append(' ').append(x.reading(i, what)).append(' ');
-                state.append(x.ofNet(i, what)).append(' ');
-            }
-        }
-        return state.toString();
     }
 
     private static void same(String call, String got, String want) {
         DUE.is(call, got.equals(want) ? 1 : 0, 1);
     }
 
-    private static int change(WarmProbes x, int which) {
+    private static int change(Counted x, int which) {
         switch (which) {
             case 0: return x.set(WarmProbes.POWER, 50);
             case 1: return x.set(WarmProbes.DOUBT, 9);
@@ -78,43 +58,65 @@ public final class PastTest {
         }
     }
 
+    /** The warm board with the run of a new one saved in slot 0, and a pad. */
+    private static Counted aheadOf(int... changes) {
+        Counted x = warmBoard();
+        x.cool();
+        x.save(0);
+        x.undo();
+        Due.put(x, "m1;m0;w3;pb0");
+        for (int which : changes) {
+            change(x, which);
+        }
+        return x;
+    }
+
     private static void undoOfEachChange() {
+        String before = Picture.stateOf(aheadOf());
         for (int which = 0; which <= 12; which++) {
-            WarmProbes x = warmBoard();
-            x.cool();
-            x.save(0);
-            x.undo();
-            Due.put(x, "m1;m0;w3;pb0");
-            String before = stateOf(x);
+            Counted x = aheadOf();
             DUE.is("changes ahead of " + which, x.count(14), 1);
             DUE.is("change " + which, change(x, which) >= 0 ? 1 : 0, 1);
             DUE.is("changes behind " + which, x.count(14), 2);
-            same("is different behind " + which, stateOf(x).equals(before) ? "same" : "other", "other");
+            DUE.is("is the same behind " + which, Picture.stateOf(x).equals(before) ? 1 : 0, 0);
             DUE.is("undo " + which, x.undo(), 1);
-            same("state behind undo of " + which, stateOf(x), before);
+            same("state behind undo of " + which, Picture.stateOf(x), before);
         }
     }
 
     private static void undoBringsAllBack() {
-        WarmProbes x = warmBoard();
-        String[] before = new String[6];
         int[] changes = {7, 8, 1, 0, 3, 2};
-        for (int i = 0; i < 6; i++) {
-            before[i] = stateOf(x);
-            change(x, changes[i]);
+        String last = "";
+        for (int undone = 0; undone <= 6; undone++) {
+            Counted x = warmBoard();
+            for (int which : changes) {
+                change(x, which);
+            }
+            for (int i = 5; i >= 6 - undone; i--) {
+                DUE.is("undo " + i, x.undo(), i);
+            }
+            Counted fresh = warmBoard();
+            for (int i = 0; i < 6 - undone; i++) {
+                change(fresh, changes[i]);
+            }
+            same("back at " + (6 - undone), Picture.stateOf(x), Picture.stateOf(fresh));
+            last = Picture.stateOf(x);
         }
-        for (int i = 5; i >= 0; i--) {
-            DUE.is("undo", x.undo(), i);
-            same("back at " + i, stateOf(x), before[i]);
+        Counted x = warmBoard();
+        for (int which : changes) {
+            change(x, which);
+        }
+        for (int i = 0; i < 6; i++) {
+            x.undo();
         }
         DUE.is("no more", x.undo(), WarmProbes.NOT_POSSIBLE);
-        same("and nothing is different", stateOf(x), before[0]);
+        same("and nothing is different", Picture.stateOf(x), last);
         DUE.is("a change goes on from there", x.warm(1), 5);
         DUE.is("and can be undone", x.undo(), 0);
     }
 
     private static void undoKeepsPadAndSlots() {
-        WarmProbes x = warmBoard();
+        Counted x = warmBoard();
         x.mend(0);
         Due.put(x, "w1");
         x.save(1);
@@ -125,7 +127,7 @@ public final class PastTest {
     }
 
     private static void sixStates() {
-        WarmProbes x = new WarmProbes();
+        Counted x = new Counted();
         for (int i = 1; i <= 9; i++) {
             x.warm(i);
             DUE.is("changes", x.count(14), Math.min(i, 6));
@@ -141,7 +143,7 @@ public final class PastTest {
     }
 
     private static void errorsRecordNothing() {
-        WarmProbes x = warmBoard();
+        Counted x = warmBoard();
         x.set(9, 9);
         x.track(0, 0, 1);
         x.touch(0, 0, 2);
@@ -165,7 +167,7 @@ public final class PastTest {
     }
 
     private static void save() {
-        WarmProbes x = warmBoard();
+        Counted x = warmBoard();
         for (int slot : NO_SLOTS) {
             DUE.is("save no slot", x.save(slot), WarmProbes.BAD_VALUE);
         }
@@ -181,26 +183,28 @@ public final class PastTest {
     }
 
     private static void restore() {
-        WarmProbes x = warmBoard();
+        Counted x = warmBoard();
         for (int slot : NO_SLOTS) {
             DUE.is("restore no slot", x.restore(slot), WarmProbes.BAD_VALUE);
         }
         DUE.is("nothing saved 0", x.restore(0), WarmProbes.NOT_POSSIBLE);
         DUE.is("nothing saved 1", x.restore(1), WarmProbes.NOT_POSSIBLE);
-        String before = stateOf(x);
         x.save(1);
         DUE.is("nothing saved in 0 still", x.restore(0), WarmProbes.NOT_POSSIBLE);
+        String before = Picture.stateOf(x);
         for (int which = 0; which <= 8; which++) {
-            change(x, which);
-            Due.put(x, "w1");
-            DUE.is("restore behind " + which, x.restore(1), 2);
-            same("restored behind " + which, stateOf(x), before);
-            DUE.is("the pad stays", x.count(13), 2);
+            Counted y = warmBoard();
+            y.save(1);
+            change(y, which);
+            Due.put(y, "w1");
+            DUE.is("restore behind " + which, y.restore(1), 2);
+            same("restored behind " + which, Picture.stateOf(y), before);
+            DUE.is("the pad stays", y.count(13), 2);
         }
     }
 
     private static void restoreIsAChange() {
-        WarmProbes x = warmBoard();
+        Counted x = warmBoard();
         x.save(0);
         x.warm(1);
         DUE.is("changes", x.count(14), 2);
@@ -215,14 +219,14 @@ public final class PastTest {
     }
 
     private static void slotsAreCopies() {
-        WarmProbes x = warmBoard();
+        Counted x = warmBoard();
         x.save(0);
-        String saved = stateOf(x);
+        String saved = Picture.stateOf(x);
         x.restore(0);
         x.warm(9);
         x.probe(0, 0);
         x.mend(1);
         x.restore(0);
-        same("the slot was not changed", stateOf(x), saved);
+        same("the slot was not changed", Picture.stateOf(x), saved);
     }
 }

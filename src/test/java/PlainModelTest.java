@@ -8,7 +8,7 @@ public final class PlainModelTest {
 
     private final Due due = new Due();
     private Random random;
-    private WarmProbes x;
+    private Counted x;
     private PlainModel model;
     private String name;
     private int calls;
@@ -24,7 +24,7 @@ public final class PlainModelTest {
     private void all() {
         for (int run = 0; run < RUNS; run++) {
             random = new Random(run);
-            x = new WarmProbes();
+            x = new Counted();
             model = new PlainModel();
             calls = 0;
             nets = 2 + random.nextInt(6);

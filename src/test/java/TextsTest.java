@@ -15,7 +15,7 @@ public final class TextsTest {
     }
 
     private static void put() {
-        WarmProbes x = new WarmProbes();
+        Counted x = new Counted();
         DUE.is("none", x.put(0L), WarmProbes.BAD_VALUE);
         DUE.is("32", x.put(32L), WarmProbes.BAD_VALUE);
         DUE.is("127", x.put(127L), WarmProbes.BAD_VALUE);
@@ -40,7 +40,7 @@ public final class TextsTest {
     }
 
     private static void putTooMany() {
-        WarmProbes x = new WarmProbes();
+        Counted x = new Counted();
         for (int i = 1; i <= 9; i++) {
             DUE.is("eight more", x.put(Due.characters("abcdefgh")), 8 * i);
         }
@@ -54,7 +54,7 @@ public final class TextsTest {
     }
 
     private static void wipe() {
-        WarmProbes x = new WarmProbes();
+        Counted x = new Counted();
         DUE.is("empty", x.wipe(), 0);
         Due.put(x, "w1;w2");
         DUE.is("wiped", x.wipe(), 5);
@@ -65,7 +65,7 @@ public final class TextsTest {
     }
 
     private static void fault(String text, int fault) {
-        WarmProbes x = new WarmProbes();
+        Counted x = new Counted();
         Due.put(x, text);
         DUE.is("fault of " + text, x.fault(), fault);
         DUE.is("the pad stays at " + text, x.count(13), text.length());
@@ -107,13 +107,13 @@ public final class TextsTest {
         fault(full.toString(), WarmProbes.NONE);
         fault(full.substring(0, 79), 79);
         fault(full.substring(0, 79) + ";", 79);
-        WarmProbes x = new WarmProbes();
+        Counted x = new Counted();
         Due.put(x, full.toString());
         DUE.is("a full pad", x.carryOut(), 39);
     }
 
     private static void carryOut() {
-        WarmProbes x = new WarmProbes();
+        Counted x = new Counted();
         Due.put(x, "t1a0h7;t2b0;f12;sa0=2;w2;pb0;m0;w13;ph7");
         DUE.is("carry out", x.carryOut(), 10);
         DUE.is("the pad is empty", x.count(13), 0);
@@ -142,13 +142,13 @@ public final class TextsTest {
             "w51", "pa8", "w50;w50;w1", "w1;w0;w1", "t1a0b0a9c0"};
         int[] done = {0, 0, 1, 0, 0, 0, 0, 0, 0, 0, 0, 0, 0, 2, 1, 2};
         for (int i = 0; i < texts.length; i++) {
-            WarmProbes x = new WarmProbes();
+            Counted x = new Counted();
             Due.put(x, texts[i]);
             DUE.is("orders of " + texts[i], x.carryOut(), done[i]);
             DUE.is("the pad is empty behind " + texts[i], x.count(13), 0);
             DUE.is("a change by " + texts[i], x.count(14), 1);
         }
-        WarmProbes x = new WarmProbes();
+        Counted x = new Counted();
         Due.put(x, "t1a0b0a9c0;w7");
         x.carryOut();
         DUE.is("ahead of the error", x.row(0, 0), 3);
@@ -158,7 +158,7 @@ public final class TextsTest {
     }
 
     private static void carryOutIsOneChange() {
-        WarmProbes x = new WarmProbes();
+        Counted x = new Counted();
         x.warm(3);
         Due.put(x, "t1a0b0c0;w5;pa0");
         DUE.is("carry out", x.carryOut(), 5);

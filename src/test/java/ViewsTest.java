@@ -23,14 +23,14 @@ public final class ViewsTest {
     }
 
     /** The board of the first run of the shared tests. */
-    private static WarmProbes board() {
-        WarmProbes x = new WarmProbes();
+    private static Counted board() {
+        Counted x = new Counted();
         Due.carryOut(x, "t1a0a1a2a3;t2b0b1b2b3;f12", 9);
         return x;
     }
 
     private static void at() {
-        WarmProbes x = board();
+        Counted x = board();
         x.touch(1, 1, 1);
         x.warm(2);
         for (int off : new int[] {-1, 8, LOW, HIGH}) {
@@ -51,7 +51,7 @@ public final class ViewsTest {
     }
 
     private static void suspects() {
-        WarmProbes x = new WarmProbes();
+        Counted x = new Counted();
         Due.carryOut(x, "t1a0b0;t2c0;t3b1;t4h1;t5a2;f13;f45", 8);
         DUE.is("a neighbour with the own net, or none", x.at(0, 0, 3), 0);
         DUE.is("a fed pair below", x.at(0, 1, 3), 1);
@@ -65,7 +65,7 @@ public final class ViewsTest {
     }
 
     private static void couldBeTheTouch() {
-        WarmProbes x = board();
+        Counted x = board();
         DUE.is("no readings: each suspect place", x.count(6), 8);
         DUE.is("no readings: not another place", x.at(1, 2, 4), 0);
         x.touch(1, 1, 1);
@@ -94,7 +94,7 @@ public final class ViewsTest {
 
     /** A reading that is wrong by DOUBT still fits, by one more it does not. */
     private static void doubt() {
-        WarmProbes x = board();
+        Counted x = board();
         x.touch(0, 0, 2);
         x.warm(2);
         DUE.is("in the corner", x.probe(0, 0), 333);
@@ -126,7 +126,7 @@ public final class ViewsTest {
     }
 
     private static void twoTouchesAtOnce() {
-        WarmProbes x = board();
+        Counted x = board();
         DUE.is("no readings: each two of 8", x.count(7), 28);
         DUE.is("no readings: a suspect place", x.at(3, 1, 5), 1);
         DUE.is("no readings: another place", x.at(4, 1, 5), 0);
@@ -140,7 +140,7 @@ public final class ViewsTest {
         for (int place = 0; place < 64; place++) {
             DUE.is("one of two " + place, x.at(place / 8, place % 8, 5), place == 9 || place == 25 ? 1 : 0);
         }
-        WarmProbes alone = new WarmProbes();
+        Counted alone = new Counted();
         Due.carryOut(alone, "t1a0;t2b0;f12;sa0=2", 4);
         DUE.is("two places are one pair", alone.count(7), 1);
         alone.warm(1);
@@ -153,7 +153,7 @@ public final class ViewsTest {
 
     /** Every place suspect, and settings that change: what was made by others must not be looked at. */
     private static void manySuspects() {
-        WarmProbes x = new WarmProbes();
+        Counted x = new Counted();
         PlainModel model = new PlainModel();
         for (int place = 0; place < 64; place++) {
             int net = 1 + (place / 8 + place % 8) % 2;
@@ -184,7 +184,7 @@ public final class ViewsTest {
     }
 
     private static void row() {
-        WarmProbes x = new WarmProbes();
+        Counted x = new Counted();
         Due.carryOut(x, "t1a7c7;t2b7g7h7;t3h6;f12", 7);
         for (int off : new int[] {-1, 8, LOW, HIGH}) {
             DUE.is("row off", x.row(off, 0), WarmProbes.NO_SUCH);
@@ -207,7 +207,7 @@ public final class ViewsTest {
     }
 
     private static void ofTouch() {
-        WarmProbes x = new WarmProbes();
+        Counted x = new Counted();
         DUE.is("no touch", x.ofTouch(0, 0), WarmProbes.NO_SUCH);
         Due.carryOut(x, "t1a0;t2b0;t3h7;t4h6;f34;sb0=1;sh6=3", 7);
         for (int off : new int[] {-1, 2, LOW, HIGH}) {
@@ -228,7 +228,7 @@ public final class ViewsTest {
     }
 
     private static void reading() {
-        WarmProbes x = board();
+        Counted x = board();
         DUE.is("no reading", x.reading(0, 0), WarmProbes.NO_SUCH);
         x.touch(0, 0, 2);
         x.probe(7, 6);
@@ -251,7 +251,7 @@ public final class ViewsTest {
     }
 
     private static void ofNet() {
-        WarmProbes x = board();
+        Counted x = board();
         x.feed(2, 7);
         x.touch(0, 0, 2);
         x.warm(3);
@@ -275,7 +275,7 @@ public final class ViewsTest {
     }
 
     private static void count() {
-        WarmProbes x = board();
+        Counted x = board();
         for (int what : new int[] {-1, 15, LOW, HIGH}) {
             DUE.is("count what", x.count(what), WarmProbes.BAD_VALUE);
         }
@@ -290,13 +290,13 @@ public final class ViewsTest {
         }
         Due.carryOut(x, "m2;w4", 2);
         DUE.is("the warmest", x.count(8), 17);
-        WarmProbes even = board();
+        Counted even = board();
         Due.carryOut(even, "sb1=1;sb2=1;w1", 3);
         DUE.is("the first of the warmest", even.count(8), 9);
     }
 
     private static void mean() {
-        WarmProbes x = board();
+        Counted x = board();
         DUE.is("cold", x.mean(), 0);
         Due.carryOut(x, "sa0=2;w7", 2);
         double sum = 0.0;
@@ -312,7 +312,7 @@ public final class ViewsTest {
     private static void faintAndHot() {
         int[][] settings = {{1, 50, 1}, {24, 0, 99}, {0, 0, 99}, {24, 50, 1}, {1, 0, 1}};
         for (int[] values : settings) {
-            WarmProbes x = new WarmProbes();
+            Counted x = new Counted();
             PlainModel model = new PlainModel();
             for (int i = 0; i < 3; i++) {
                 x.set(i, values[i]);
@@ -344,7 +344,7 @@ public final class ViewsTest {
     }
 
     private static void viewsChangeNothing() {
-        WarmProbes x = board();
+        Counted x = board();
         Due.carryOut(x, "sa0=2;w7;pb0", 3);
         long before = x.mean();
         for (int what = -1; what < 16; what++) {

@@ -13,14 +13,14 @@ public final class WhatIfTest {
         DUE.end();
     }
 
-    private static WarmProbes board() {
-        WarmProbes x = new WarmProbes();
+    private static Counted board() {
+        Counted x = new Counted();
         Due.carryOut(x, "t1a0a1a2a3;t2b0b1b2b3;f12", 9);
         return x;
     }
 
     private static void bestProbe() {
-        WarmProbes x = board();
+        Counted x = board();
         for (int what : new int[] {-1, 2, LOW, HIGH}) {
             DUE.is("best what", x.bestProbe(what), WarmProbes.BAD_VALUE);
         }
@@ -33,7 +33,7 @@ public final class WhatIfTest {
         int best = 0;
         int most = 0;
         for (int place = 0; place < 64; place++) {
-            int unlike = unlikeReads(x, place);
+            int unlike = unlikeReads(place);
             if (unlike > most) {
                 most = unlike;
                 best = place;
@@ -42,16 +42,19 @@ public final class WhatIfTest {
         DUE.is("the place", x.bestProbe(0), best);
         DUE.is("how many", x.bestProbe(1), most);
         DUE.is("many", most > 4 ? 1 : 0, 1);
-        WarmProbes down = new WarmProbes();
+        Counted down = new Counted();
         Due.carryOut(down, "t1h6;t2h7;f12;w1", 4);
         DUE.is("not the first place", down.bestProbe(0), 55);
         DUE.is("two numbers", down.bestProbe(1), 2);
     }
 
-    private static int unlikeReads(WarmProbes x, int place) {
+    /** On the board, behind 4 steps, when each of its places could be the touch. */
+    private static int unlikeReads(int place) {
+        Counted x = board();
+        x.warm(4);
         java.util.TreeSet<Integer> reads = new java.util.TreeSet<>();
         for (int source = 0; source < 64; source++) {
-            if (x.at(source / 8, source % 8, 4) == 1) {
+            if (source % 8 < 2 && source < 32) {
                 reads.add(x.wouldRead(place / 8, place % 8, source / 8, source % 8));
             }
         }
@@ -59,7 +62,7 @@ public final class WhatIfTest {
     }
 
     private static void bestProbeNone() {
-        WarmProbes x = new WarmProbes();
+        Counted x = new Counted();
         DUE.is("no place", x.bestProbe(0), WarmProbes.NONE);
         DUE.is("no place, how many", x.bestProbe(1), WarmProbes.NONE);
         DUE.is("what ahead of it", x.bestProbe(2), WarmProbes.BAD_VALUE);
@@ -76,7 +79,7 @@ public final class WhatIfTest {
     }
 
     private static void readsIn() {
-        WarmProbes x = board();
+        Counted x = board();
         for (int off : new int[] {-1, 8, LOW, HIGH}) {
             DUE.is("off row", x.readsIn(off, 0, 1), WarmProbes.NO_SUCH);
             DUE.is("off column", x.readsIn(0, off, 0), WarmProbes.NO_SUCH);
@@ -101,7 +104,7 @@ public final class WhatIfTest {
 
     /** Without spread and loss a touch reads 10 more in each step, so that each step can be counted. */
     private static void readsInWithin200() {
-        WarmProbes x = board();
+        Counted x = board();
         Due.carryOut(x, "sa0=2", 1);
         x.set(WarmProbes.SPREAD, 0);
         x.set(WarmProbes.LOSS, 0);
@@ -119,7 +122,7 @@ public final class WhatIfTest {
     }
 
     private static void wouldRead() {
-        WarmProbes x = board();
+        Counted x = board();
         for (int off : new int[] {-1, 8, LOW, HIGH}) {
             DUE.is("off row", x.wouldRead(off, 0, 0, 0), WarmProbes.NO_SUCH);
             DUE.is("off column", x.wouldRead(0, off, 0, 0), WarmProbes.NO_SUCH);
