@@ -331,7 +331,8 @@ public final class EmptyAndFullTest {
     /** "up to the first one that returns an error, and empties the pad": each error that an order can have. */
     private static void textsUpToEachError() {
         String[] refused = {"t1a8", "t1h9", "t8a0", "t9a0", "t3a0", "t3b0", "f01", "f10", "f18", "f91", "f11", "f77",
-            "sa8=1", "sa0=0", "sa0=8", "sa0=9", "sa0=2", "sh7=1", "sa1=3", "m1", "m9", "w0", "w51", "w99", "pa8", "ph9"};
+            "sa8=1", "sa0=0", "sa0=8", "sa0=9", "sa0=2", "sh7=1", "sa1=3", "m1", "m9", "w0", "w51", "w99", "pa8",
+            "ph9"};
         for (String order : refused) {
             for (int ahead = 0; ahead <= 2; ahead++) {
                 Counted x = Scenes.board();
